@@ -98,8 +98,8 @@ public final class NineCopies {
     private static final int STOP_MOST = 3;
     // All sets of three at most of sixteen.
     private static final int STOP_TRIES = 697;
-    // None, the pairs (of one with himself: he alone), and a last one for all larger sets.
-    private static final int WRITER_SLOTS = PEOPLE_MOST * PEOPLE_MOST + 2;
+    // Sets of two at most as numbers of two digits, 0 for nobody; and a last one for all larger sets.
+    private static final int WRITER_SLOTS = (PEOPLE_MOST + 1) * (PEOPLE_MOST + 1) + 1;
 
     private final World world = new World();
     private final Texts texts = new Texts();
@@ -565,16 +565,16 @@ public final class NineCopies {
 
     /** Where it is kept who wrote while a set was stopped; sets of three, which nobody asks for, share a place. */
     private static int writerSlot(int set) {
-        int size = Integer.bitCount(set);
-        if (size == 0) {
-            return 0;
-        }
-        if (size >= STOP_MOST) {
+        if (Integer.bitCount(set) >= STOP_MOST) {
             return WRITER_SLOTS - 1;
         }
-        int lowest = Integer.numberOfTrailingZeros(set);
-        int highest = 31 - Integer.numberOfLeadingZeros(set);
-        return 1 + highest * PEOPLE_MOST + lowest;
+        int slot = 0;
+        for (int p = 0; p < PEOPLE_MOST; p++) {
+            if (hasBit(set, p)) {
+                slot = slot * (PEOPLE_MOST + 1) + p + 1;
+            }
+        }
+        return slot;
     }
 
     /** The next set of as many, else the least of one more; NONE behind the sets of three. */
