@@ -376,22 +376,22 @@ public final class EdgeTest {
     }
 
     private static int[] allOf(NineCopies x) {
-        int[] all = new int[24 + 16 * 31 + 40 * 7 + 50 * 5 + 36];
+        int[] all = new int[24 + 4 * 22 + 40 * 4 + 20 * 5 + 36];
         int n = 0;
         for (int what = 0; what < 24; what++) {
             all[n++] = what == 13 ? 0 : x.look(what);
         }
-        for (int p = 0; p < 16; p++) {
-            for (int what = 0; what < 31; what++) {
+        for (int p = 0; p < 4; p++) {
+            for (int what = 0; what < 22; what++) {
                 all[n++] = x.of(p, what);
             }
         }
         for (int v = 0; v < 40; v++) {
-            for (int what = 0; what < 7; what++) {
+            for (int what = 0; what < 4; what++) {
                 all[n++] = x.kind(v, what);
             }
         }
-        for (int i = 0; i < 50; i++) {
+        for (int i = 0; i < 20; i++) {
             for (int what = 0; what < 5; what++) {
                 all[n++] = x.book(i, what);
             }
@@ -402,7 +402,7 @@ public final class EdgeTest {
         return all;
     }
 
-    /** The calls are more than 512 here, which nothing is promised of; so each half has an object of its own. */
+    /** Two objects, since an object answers 512 calls alone and each look at all of it takes some 400. */
     private static void imageOfAll() {
         int[] due = allOf(lively());
         NineCopies x = lively();
