@@ -2,12 +2,20 @@
 final class Check {
     private static int asked = 0;
     private static int wrong = 0;
+    private static int sentences = 0;
+    private static String sentence = "";
+
+    /** The sentence of the document of which the answers asked for from here on are the test. */
+    static void sentence(String words) {
+        sentences++;
+        sentence = "[" + words + "] ";
+    }
 
     static void same(String what, long got, long want) {
         asked++;
         if (got != want) {
             wrong++;
-            System.out.println(what + " answered " + got + ", due is " + want);
+            System.out.println(sentence + what + " answered " + got + ", due is " + want);
         }
     }
 
@@ -17,6 +25,13 @@ final class Check {
 
     static void no(String what, boolean got) {
         same(what, got ? 1 : 0, 0);
+    }
+
+    static void all(String what, int[] got, int[] want) {
+        same(what + ", how many", got.length, want.length);
+        for (int i = 0; i < Math.min(got.length, want.length); i++) {
+            same(what + ", number " + i, got[i], want[i]);
+        }
     }
 
     /** Feeds a text of 400 signs at most and nothing else. */
@@ -51,7 +66,8 @@ final class Check {
     }
 
     static void finish(String name) {
-        System.out.println(name + ": " + (asked - wrong) + " answers as due, " + wrong + " not");
+        String of = sentences == 0 ? "" : " of " + sentences + " sentences";
+        System.out.println(name + ": " + (asked - wrong) + " answers" + of + " as due, " + wrong + " not");
         if (wrong != 0) {
             System.exit(1);
         }

@@ -28,14 +28,6 @@ public final class EdgeTest {
         Check.same(what, got, want);
     }
 
-    private static NineCopies withPeople(int count) {
-        NineCopies x = new NineCopies();
-        for (int p = 0; p < count; p++) {
-            x.person(0, 0, 0);
-        }
-        return x;
-    }
-
     private static void fullTape() {
         NineCopies x = new NineCopies();
         Check.lines(x, 0, "write 1" + "+1".repeat(196) + ";", 1);
@@ -116,7 +108,7 @@ public final class EdgeTest {
         same("a: not yet", x.days(1), 0);
         same("a: it comes on its day", x.days(1), 1);
         same("a: to whom", x.letter(1, 0, 0), 1);
-        NineCopies y = withPeople(1);
+        NineCopies y = Given.people(1);
         y.version(1, 0);
         y.set(7, 0, 9);
         y.hand(0, 0);
@@ -133,7 +125,7 @@ public final class EdgeTest {
         for (int state = 1; state < 3000; state += 77) {
             int drawn = ((state * 1664525 + 1013904223) >>> 8) % 1000;
             for (int blots = Math.max(1, drawn); blots <= drawn + 1; blots++) {
-                NineCopies x = withPeople(2);
+                NineCopies x = Given.people(2);
                 x.version(3, 0);
                 x.set(3, 0, 1);
                 x.set(8, 0, blots);
@@ -149,7 +141,7 @@ public final class EdgeTest {
     private static void overAtTheLastDay() {
         // Ten steps by twenty days each; he who has no row loses it one day behind its coming.
         for (int term = 1; term <= 2; term++) {
-            NineCopies x = withPeople(11);
+            NineCopies x = Given.people(11);
             Check.tell(x, 2, "post 0 to 0 in 20;");
             x.version(3, 0);
             x.set(6, 0, 1);
@@ -167,7 +159,7 @@ public final class EdgeTest {
     }
 
     private static void stopAtItsBounds() {
-        NineCopies x = withPeople(5);
+        NineCopies x = Given.people(5);
         x.version(3, 0);
         x.set(6, 0, 1);
         x.set(7, 0, 1);
@@ -186,7 +178,7 @@ public final class EdgeTest {
             same("too many days", x.stop(100), NONE);
         }
         // Two who write to one another for ever, and no others.
-        NineCopies y = withPeople(2);
+        NineCopies y = Given.people(2);
         Check.tell(y, 0, "write 9;");
         y.version(3, 0);
         y.set(3, 0, 1);
@@ -206,7 +198,7 @@ public final class EdgeTest {
         same("it helps nobody to be stopped", y.stop(20), NONE);
         same("it is due by then", y.stop(21), 0);
         // Slow post to one another, so it takes both of both.
-        NineCopies w = withPeople(2);
+        NineCopies w = Given.people(2);
         w.version(1, 1);
         Check.tell(w, 2, "post 0 to 0 in 5;");
         w.set(6, 0, 1);
@@ -220,7 +212,7 @@ public final class EdgeTest {
         same("all people there are", w.stop(2), 3);
         same("still both", w.stop(5), 3);
         same("nobody", w.stop(6), 0);
-        NineCopies z = withPeople(1);
+        NineCopies z = Given.people(1);
         z.version(1, 1);
         z.hand(0, 0);
         same("the only one can't help it", z.stop(9), NONE);
@@ -249,7 +241,7 @@ public final class EdgeTest {
     }
 
     private static void childrenAmongOthers() {
-        NineCopies x = withPeople(3);
+        NineCopies x = Given.people(3);
         x.version(1, 0);
         x.version(1, 0);
         x.version(1, 0);
@@ -274,7 +266,7 @@ public final class EdgeTest {
     }
 
     private static void countsOfTheFirstPerson() {
-        NineCopies x = withPeople(2);
+        NineCopies x = Given.people(2);
         x.version(1, 0);
         x.version(1, 0);
         x.hand(0, 1);
@@ -288,7 +280,7 @@ public final class EdgeTest {
 
     private static void lastsOfAllCurses() {
         for (int curse = 0; curse < 10; curse++) {
-            NineCopies x = withPeople(2);
+            NineCopies x = Given.people(2);
             x.version(curse, 0);
             x.version(9 - curse, 0);
             x.hand(1, 0);
@@ -314,7 +306,7 @@ public final class EdgeTest {
     }
 
     private static void undoOfLetters() {
-        NineCopies x = withPeople(3);
+        NineCopies x = Given.people(3);
         x.version(1, 0);
         x.version(2, 0);
         x.set(6, 0, 2);
@@ -358,7 +350,7 @@ public final class EdgeTest {
     }
 
     private static NineCopies lively() {
-        NineCopies x = withPeople(4);
+        NineCopies x = Given.people(4);
         x.set(6, 0, 2);
         x.set(8, 0, 700);
         x.version(7, 0);
@@ -431,7 +423,7 @@ public final class EdgeTest {
     }
 
     private static void imageForgetsWhatCanBeUndone() {
-        NineCopies x = withPeople(1);
+        NineCopies x = Given.people(1);
         x.version(1, 0);
         x.version(2, 0);
         x.pick(1);
@@ -452,7 +444,7 @@ public final class EdgeTest {
     }
 
     private static void imageLeavesNobodyBehind() {
-        NineCopies x = withPeople(1);
+        NineCopies x = Given.people(1);
         x.version(5, 0);
         x.hand(0, 0);
         x.burn(0, 0);
@@ -485,7 +477,7 @@ public final class EdgeTest {
     }
 
     private static void lawsAtTheMost() {
-        NineCopies x = withPeople(1);
+        NineCopies x = Given.people(1);
         x.version(3, 7);
         x.hand(0, 0);
         // Brackets as deep as they may be, with as much waiting at each as can.

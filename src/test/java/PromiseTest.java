@@ -42,27 +42,6 @@ public final class PromiseTest {
         Check.same(what, got, want);
     }
 
-    private static NineCopies withPeople(int... towns) {
-        NineCopies x = new NineCopies();
-        for (int town : towns) {
-            x.person(town, 0, 0);
-        }
-        return x;
-    }
-
-    /** People in town 0 in a ring of rows, each with paper, and version 0. */
-    private static NineCopies ring(int people, int copies, int term, int paper) {
-        NineCopies x = withPeople(new int[people]);
-        x.set(6, 0, copies);
-        x.set(7, 0, term);
-        for (int p = 0; p < people; p++) {
-            x.set(3, p, paper);
-            x.address(p, (p + 1) % people);
-        }
-        x.version(4, 3);
-        return x;
-    }
-
     private static void newObject() {
         NineCopies x = new NineCopies();
         int[] wants = {0, 0, 0, 0, 0, 0, 0, 0, 0, 0, 0, 0, 0, 0, 0};
@@ -109,7 +88,7 @@ public final class PromiseTest {
     }
 
     private static void set() {
-        NineCopies x = withPeople(0, 0);
+        NineCopies x = Given.inTowns(0, 0);
         int[] least = {0, 0, 0, 0, 0, 0, 1, 1, 0, 0};
         int[] most = {5, 2, 99, 99, 9999, 1, 9, 20, 1000, 1};
         for (int what = 0; what < 10; what++) {
@@ -128,7 +107,7 @@ public final class PromiseTest {
     }
 
     private static void address() {
-        NineCopies x = withPeople(0, 0, 0);
+        NineCopies x = Given.inTowns(0, 0, 0);
         same("5: himself", x.address(0, 0), NONE);
         same("5: nobody", x.address(0, 3), NONE);
         same("5: below", x.address(0, -2), NONE);
@@ -171,7 +150,7 @@ public final class PromiseTest {
     }
 
     private static void hand() {
-        NineCopies x = withPeople(0, 0);
+        NineCopies x = Given.inTowns(0, 0);
         x.person(0, 1, 0);
         x.person(0, 2, 0);
         x.version(2, 0);
@@ -200,7 +179,7 @@ public final class PromiseTest {
     }
 
     private static void burn() {
-        NineCopies x = withPeople(0);
+        NineCopies x = Given.inTowns(0);
         for (int v = 0; v < 3; v++) {
             x.version(v, 0);
             x.hand(0, v);
@@ -376,7 +355,7 @@ public final class PromiseTest {
     }
 
     private static void lawOfHands() {
-        NineCopies x = withPeople(0, 0, 0);
+        NineCopies x = Given.inTowns(0, 0, 0);
         x.version(5, 0b1011001);
         x.set(7, 0, 8);
         x.set(6, 0, 7);
@@ -432,7 +411,7 @@ public final class PromiseTest {
     }
 
     private static void lawOfLuck() {
-        NineCopies x = withPeople(0, 0, 0);
+        NineCopies x = Given.inTowns(0, 0, 0);
         x.version(5, 0);
         x.set(6, 0, 7);
         x.hand(2, 0);
@@ -471,7 +450,7 @@ public final class PromiseTest {
     }
 
     private static void daysOfArrival() {
-        NineCopies x = ring(3, 1, 5, 5);
+        NineCopies x = Given.ring(3, 1, 5, 5);
         x.hand(0, 0);
         same("a: posted, none came", x.days(1), 0);
         same("a: freed", x.look(7), 1);
@@ -495,7 +474,7 @@ public final class PromiseTest {
     }
 
     private static void daysOfWriting() {
-        NineCopies x = withPeople(0, 0, 0, 0, 0, 0);
+        NineCopies x = Given.inTowns(0, 0, 0, 0, 0, 0);
         x.version(1, 0);
         x.version(2, 0);
         x.set(6, 0, 3);
@@ -535,7 +514,7 @@ public final class PromiseTest {
         same("b: sent", x.of(0, 10), 34);
         same("b: next", x.of(0, 8), 0);
         // What is written out is out of his hands before the next one is looked at.
-        NineCopies y = withPeople(0, 0);
+        NineCopies y = Given.inTowns(0, 0);
         y.version(1, 0);
         y.set(6, 0, 2);
         y.set(3, 0, 50);
@@ -548,7 +527,7 @@ public final class PromiseTest {
     }
 
     private static void daysOfBlots() {
-        NineCopies x = withPeople(0, 0);
+        NineCopies x = Given.inTowns(0, 0);
         x.version(5, 0);
         x.set(6, 0, 9);
         x.set(3, 0, 99);
@@ -582,7 +561,7 @@ public final class PromiseTest {
     }
 
     private static void blotsOfForty() {
-        NineCopies x = withPeople(0, 0);
+        NineCopies x = Given.inTowns(0, 0);
         for (int v = 0; v < 39; v++) {
             x.version(3, 1);
         }
@@ -611,7 +590,7 @@ public final class PromiseTest {
                 continue;
             }
             int curse = found % 3;
-            NineCopies x = withPeople(0, 0);
+            NineCopies x = Given.inTowns(0, 0);
             x.version(curse, found % 2);
             x.set(3, 0, 1);
             x.set(8, 0, 1000);
@@ -627,7 +606,7 @@ public final class PromiseTest {
     }
 
     private static void daysOfFullWay() {
-        NineCopies x = withPeople(0, 1, 1, 1, 1, 1, 1, 1, 1);
+        NineCopies x = Given.inTowns(0, 1, 1, 1, 1, 1, 1, 1, 1);
         Check.tell(x, 2, "post 0 to 1 in 20; post 1 to 1 in 20;");
         Check.tell(x, 0, "write 9;");
         x.version(9, 0);
@@ -647,7 +626,7 @@ public final class PromiseTest {
     }
 
     private static void daysOfLuck() {
-        NineCopies x = withPeople(0, 0);
+        NineCopies x = Given.inTowns(0, 0);
         x.person(0, 2, 0);
         x.version(5, 0);
         x.set(6, 0, 2);
@@ -669,7 +648,7 @@ public final class PromiseTest {
         x.days(9);
         same("c: ever", x.of(2, 6), 1);
         // The second one's ill luck is that of what coin is left by then.
-        NineCopies y = withPeople(0);
+        NineCopies y = Given.inTowns(0);
         y.version(5, 0);
         y.set(7, 0, 1);
         y.set(4, 0, 100);
@@ -681,7 +660,7 @@ public final class PromiseTest {
     }
 
     private static void book() {
-        NineCopies x = withPeople(0, 0, 0);
+        NineCopies x = Given.inTowns(0, 0, 0);
         x.person(0, 1, 0);
         x.set(6, 0, 9);
         x.set(7, 0, 20);
@@ -719,7 +698,7 @@ public final class PromiseTest {
     }
 
     private static void bookOfTwoHundred() {
-        NineCopies x = withPeople(0);
+        NineCopies x = Given.inTowns(0);
         x.person(0, 1, 0);
         x.version(1, 0);
         x.address(0, 1);
@@ -739,7 +718,7 @@ public final class PromiseTest {
     }
 
     private static void of() {
-        NineCopies x = withPeople(0, 0);
+        NineCopies x = Given.inTowns(0, 0);
         same("14: nobody", x.of(2, 0), NONE);
         same("14: below", x.of(-1, 0), NONE);
         for (int what : new int[] {-1, 11, 19, 20, 29, Integer.MAX_VALUE, Integer.MIN_VALUE}) {
@@ -753,7 +732,7 @@ public final class PromiseTest {
     }
 
     private static void letterAndStamps() {
-        NineCopies x = withPeople(0, 1, 2, 3, 1);
+        NineCopies x = Given.inTowns(0, 1, 2, 3, 1);
         x.version(3, 0);
         x.set(6, 0, 3);
         same("15: none", x.letter(0, 0, 0), NONE - 1);
@@ -782,7 +761,7 @@ public final class PromiseTest {
     }
 
     private static void onWay() {
-        NineCopies x = withPeople(2, 4);
+        NineCopies x = Given.inTowns(2, 4);
         x.version(3, 0);
         x.version(3, 0);
         x.set(3, 0, 1);
@@ -807,7 +786,7 @@ public final class PromiseTest {
 
     /** Version 0, whose letter one blots again and again: 0, then 1 of 0, and so on, each from hand to hand. */
     private static NineCopies chain() {
-        NineCopies x = ring(4, 1, 9, 90);
+        NineCopies x = Given.ring(4, 1, 9, 90);
         x.set(8, 0, 1000);
         x.hand(0, 0);
         x.days(3);
@@ -853,7 +832,7 @@ public final class PromiseTest {
     }
 
     private static void many() {
-        NineCopies x = withPeople(0, 1, 1, 2);
+        NineCopies x = Given.inTowns(0, 1, 1, 2);
         x.version(1, 0);
         x.set(6, 0, 2);
         x.set(7, 0, 4);
@@ -884,7 +863,7 @@ public final class PromiseTest {
     }
 
     private static void over() {
-        NineCopies x = ring(3, 1, 5, 2);
+        NineCopies x = Given.ring(3, 1, 5, 2);
         same("21: over at once", x.over(), 0);
         x.hand(0, 0);
         same("21: when the paper is gone and the last is cursed", x.over(), 12);
@@ -895,7 +874,7 @@ public final class PromiseTest {
         x.set(8, 0, 1000);
         same("21: no blots in thought", x.over(), 12);
         same("21: no state", x.look(6), 0);
-        NineCopies y = withPeople(0, 0);
+        NineCopies y = Given.inTowns(0, 0);
         y.version(1, 0);
         y.set(1, 0, 2);
         y.hand(0, 0);
@@ -903,7 +882,7 @@ public final class PromiseTest {
         y.set(7, 0, 20);
         y.hand(1, 0);
         same("21: due on day 20", y.over(), 21);
-        NineCopies z = ring(2, 9, 20, 99);
+        NineCopies z = Given.ring(2, 9, 20, 99);
         z.set(6, 0, 9);
         Check.tell(z, 2, "post 0 to 0 in 20;");
         z.hand(0, 0);
@@ -911,7 +890,7 @@ public final class PromiseTest {
     }
 
     private static void stop() {
-        NineCopies x = withPeople(0, 0, 0, 0, 0, 0);
+        NineCopies x = Given.inTowns(0, 0, 0, 0, 0, 0);
         x.version(1, 0);
         x.set(6, 0, 3);
         x.set(7, 0, 2);
@@ -936,7 +915,7 @@ public final class PromiseTest {
         same("22: above", x.stop(100), NONE);
         same("22: below", x.stop(-1), NONE);
         same("22: nothing of it stays", x.of(1, 5), 0);
-        NineCopies y = ring(5, 2, 3, 99);
+        NineCopies y = Given.ring(5, 2, 3, 99);
         Check.tell(y, 0, "write 9;");
         y.hand(3, 0);
         same("22: the least of several sets of one", y.stop(8), 1);
@@ -947,7 +926,7 @@ public final class PromiseTest {
     }
 
     private static void reach() {
-        NineCopies x = withPeople(0, 0, 0, 0, 0);
+        NineCopies x = Given.inTowns(0, 0, 0, 0, 0);
         same("23: nobody", x.reach(5), NONE);
         same("23: below", x.reach(-1), NONE);
         same("23: without a row", x.reach(0), 0);
@@ -970,7 +949,7 @@ public final class PromiseTest {
     }
 
     private static void sources() {
-        NineCopies x = withPeople(0, 0, 0, 0, 0);
+        NineCopies x = Given.inTowns(0, 0, 0, 0, 0);
         for (int p = 0; p < 4; p++) {
             x.address(p, p + 1);
         }
@@ -992,7 +971,7 @@ public final class PromiseTest {
     }
 
     private static void circle() {
-        NineCopies x = ring(16, 1, 1, 1);
+        NineCopies x = Given.ring(16, 1, 1, 1);
         same("25: all sixteen", x.circle(5), 16);
         x.address(9, 5);
         same("25: a shorter way", x.circle(5), 5);
@@ -1077,7 +1056,7 @@ public final class PromiseTest {
     }
 
     private static void forebear() {
-        NineCopies x = withPeople(0, 0, 0);
+        NineCopies x = Given.inTowns(0, 0, 0);
         x.version(1, 0);
         x.version(1, 0);
         x.set(3, 0, 99);
@@ -1112,7 +1091,7 @@ public final class PromiseTest {
     }
 
     private static void lasts() {
-        NineCopies x = withPeople(0, 0, 0);
+        NineCopies x = Given.inTowns(0, 0, 0);
         x.person(0, 2, 0);
         x.set(7, 0, 3);
         x.version(7, 0);
@@ -1135,7 +1114,7 @@ public final class PromiseTest {
     }
 
     private static void knows() {
-        NineCopies x = withPeople(0, 0, 0);
+        NineCopies x = Given.inTowns(0, 0, 0);
         x.version(0, 0);
         x.version(0, 0);
         x.hand(0, 0);
@@ -1192,7 +1171,7 @@ public final class PromiseTest {
     }
 
     private static void undoOfSix() {
-        NineCopies x = withPeople(0);
+        NineCopies x = Given.inTowns(0);
         x.version(0, 0);
         for (int i = 0; i < 3; i++) {
             x.hand(0, 0);
@@ -1206,7 +1185,7 @@ public final class PromiseTest {
         }
         Check.no("31: no seventh", x.undo());
         same("31: at none", x.of(0, 6), 0);
-        NineCopies y = withPeople(0);
+        NineCopies y = Given.inTowns(0);
         y.days(5);
         y.days(60);
         same("31: six days", y.look(13), 6);
@@ -1232,7 +1211,7 @@ public final class PromiseTest {
 
     private static void undoForgotten() {
         for (int what = 0; what < 14; what++) {
-            NineCopies x = withPeople(0, 0);
+            NineCopies x = Given.inTowns(0, 0);
             x.version(0, 0);
             x.image(true);
             x.hand(0, 0);
@@ -1256,7 +1235,7 @@ public final class PromiseTest {
             same("31: can be undone behind " + what, x.look(13), forgets ? 0 : 1);
             same("31: undone behind " + what, x.undo() ? 1 : 0, forgets ? 0 : 1);
         }
-        NineCopies x = withPeople(0);
+        NineCopies x = Given.inTowns(0);
         x.version(0, 0);
         x.hand(0, 0);
         Check.tell(x, 0, "write 7;");
@@ -1267,7 +1246,7 @@ public final class PromiseTest {
     }
 
     private static void undoOfLuck() {
-        NineCopies x = withPeople(0);
+        NineCopies x = Given.inTowns(0);
         x.version(3, 0);
         x.set(4, 0, 50);
         x.set(7, 0, 1);
