@@ -4,6 +4,7 @@ public final class BoundsOfPeopleTest {
 
     public static void main(String[] args) {
         nobodyAtFirst();
+        fiveHundredAndTwelveCalls();
         stateIsAnInt();
         townsAreSix();
         kindsAreThree();
@@ -60,10 +61,23 @@ public final class BoundsOfPeopleTest {
         Check.no("an act to undo", x.undo());
         Check.no("an image", x.image(false));
         Check.no("a byte", x.end(1));
+        Check.same("NONE", NONE, -1);
         Check.same("over", x.over(), 0);
         Check.same("many", x.many(99, NONE), 0);
         Check.same("the first is 0", x.person(0, 0, 0), 0);
         Check.same("the first version is 0", x.version(0, 0), 0);
+    }
+
+    private static void fiveHundredAndTwelveCalls() {
+        Check.sentence("An object is used for at most 512 calls after it has been made.");
+        NineCopies x = Given.people(1);
+        for (int call = 2; call <= 512; call++) {
+            Check.same("call " + call, x.state(call), call == 2 ? 0 : call - 1);
+        }
+        NineCopies y = new NineCopies();
+        for (int call = 1; call <= 512; call++) {
+            Check.same("day by call " + call, call % 2 == 1 ? y.days(1) : y.look(2), call % 2 == 1 ? 0 : call / 2);
+        }
     }
 
     private static void stateIsAnInt() {
@@ -79,55 +93,45 @@ public final class BoundsOfPeopleTest {
 
     private static void townsAreSix() {
         Check.sentence("TOWNS 0 .. 5.");
-        NineCopies x = new NineCopies();
-        Check.same("below", x.person(-1, 0, 0), NONE);
-        Check.same("least", x.person(0, 0, 0), 0);
-        Check.same("most", x.person(5, 0, 0), 1);
-        Check.same("above", x.person(6, 0, 0), NONE);
-        Check.same("the least is his", x.of(0, 0), 0);
-        Check.same("the most is his", x.of(1, 0), 5);
-        Check.no("set below", x.set(0, 1, -1));
-        Check.no("set above", x.set(0, 0, 6));
-        Check.same("they stay, least", x.of(0, 0), 0);
-        Check.same("they stay, most", x.of(1, 0), 5);
-        Check.yes("set to the most", x.set(0, 0, 5));
-        Check.yes("set to the least", x.set(0, 1, 0));
-        Check.same("set is his, most", x.of(0, 0), 5);
-        Check.same("set is his, least", x.of(1, 0), 0);
+        boundsOfPerson(0, 5);
     }
 
     private static void kindsAreThree() {
         Check.sentence("a KIND 0 .. 2 (0 plain, 1 a burner, 2 a convent)");
-        NineCopies x = new NineCopies();
-        Check.same("below", x.person(0, -1, 0), NONE);
-        Check.same("least", x.person(0, 0, 0), 0);
-        Check.same("most", x.person(0, 2, 0), 1);
-        Check.same("above", x.person(0, 3, 0), NONE);
-        Check.same("the least is his", x.of(0, 1), 0);
-        Check.same("the most is his", x.of(1, 1), 2);
-        Check.no("set below", x.set(1, 1, -1));
-        Check.no("set above", x.set(1, 0, 3));
-        Check.yes("set to the most", x.set(1, 0, 2));
-        Check.yes("set to the least", x.set(1, 1, 0));
-        Check.same("set is his, most", x.of(0, 1), 2);
-        Check.same("set is his, least", x.of(1, 1), 0);
+        boundsOfPerson(1, 2);
     }
 
     private static void lazyToNinetyNine() {
         Check.sentence("LAZY 0 .. 99");
+        boundsOfPerson(2, 99);
+    }
+
+    private static int personWith(NineCopies x, int what, int v) {
+        return x.person(what == 0 ? v : 0, what == 1 ? v : 0, what == 2 ? v : 0);
+    }
+
+    /** What is told when a person comes, and may be set then. */
+    private static void boundsOfPerson(int what, int most) {
         NineCopies x = new NineCopies();
-        Check.same("below", x.person(0, 0, -1), NONE);
-        Check.same("least", x.person(0, 0, 0), 0);
-        Check.same("most", x.person(0, 0, 99), 1);
-        Check.same("above", x.person(0, 0, 100), NONE);
-        Check.same("the least is his", x.of(0, 2), 0);
-        Check.same("the most is his", x.of(1, 2), 99);
-        Check.no("set below", x.set(2, 1, -1));
-        Check.no("set above", x.set(2, 0, 100));
-        Check.yes("set to the most", x.set(2, 0, 99));
-        Check.yes("set to the least", x.set(2, 1, 0));
-        Check.same("set is his, most", x.of(0, 2), 99);
-        Check.same("set is his, least", x.of(1, 2), 0);
+        Check.same("below", personWith(x, what, -1), NONE);
+        Check.same("least", personWith(x, what, 0), 0);
+        Check.same("most", personWith(x, what, most), 1);
+        Check.same("above", personWith(x, what, most + 1), NONE);
+        Check.same("the least is his", x.of(0, what), 0);
+        Check.same("the most is his", x.of(1, what), most);
+        Check.no("set below", x.set(what, 1, -1));
+        Check.no("set above", x.set(what, 0, most + 1));
+        Check.same("they stay, least", x.of(0, what), 0);
+        Check.same("they stay, most", x.of(1, what), most);
+        Check.yes("set to the most", x.set(what, 0, most));
+        Check.yes("set to the least", x.set(what, 1, 0));
+        Check.same("set is his, most", x.of(0, what), most);
+        Check.same("set is his, least", x.of(1, what), 0);
+        for (int other = 0; other < 3; other++) {
+            if (other != what) {
+                Check.same("what else is told of him", x.of(0, other), 0);
+            }
+        }
     }
 
     private static void aRefusedPersonTakesNoNumber() {
